@@ -20,15 +20,18 @@ public final class FaceTest {
     public static void main(String[] args) {
         Check check = new Check("face");
         Class<?> type = PyramidSender.class;
+        check.sentence("a public final class that stands alone");
         check.due("modifiers", type.getModifiers(), Modifier.PUBLIC | Modifier.FINAL);
         check.due("nested classes", type.getDeclaredClasses().length, 0);
         check.due("interfaces", type.getInterfaces().length, 0);
 
+        check.sentence("the constructor");
         Constructor<?>[] constructors = type.getDeclaredConstructors();
         check.due("constructors", constructors.length, 1);
         check.due("constructor's modifiers", constructors[0].getModifiers(), Modifier.PUBLIC);
         check.due("constructor's parameters", constructors[0].getParameterCount(), 0);
 
+        check.sentence("the methods, and none beside them");
         Set<String> seen = new TreeSet<>();
         for (Method method : type.getDeclaredMethods()) {
             if (!Modifier.isPrivate(method.getModifiers())) {
@@ -37,6 +40,14 @@ public final class FaceTest {
         }
         check.due("methods " + seen + " are the document's", seen.equals(FACE) ? 1 : 0, 1);
 
+        check.sentence("no private method with the name of a public one");
+        for (Method method : type.getDeclaredMethods()) {
+            boolean isPrivate = Modifier.isPrivate(method.getModifiers());
+            boolean hasPublicName = FACE.stream().anyMatch(face -> face.contains("." + method.getName() + "("));
+            check.due(method + " has a public one's name", hasPublicName ? 1 : 0, isPrivate ? 0 : 1);
+        }
+
+        check.sentence("no field that can be seen");
         for (Field field : type.getDeclaredFields()) {
             check.due(field + " is private", Modifier.isPrivate(field.getModifiers()) ? 1 : 0, 1);
         }

@@ -21,6 +21,7 @@ public final class LongRunsTest {
 
     public static void main(String[] args) {
         Check check = new Check("long runs");
+        check.sentence("mixed runs of " + CALLS + " calls");
         for (long seed = 0; seed < 300; seed++) {
             LongRunsTest run = new LongRunsTest(check, seed);
             for (int call = 0; call < CALLS; call++) {

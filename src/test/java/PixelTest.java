@@ -2,47 +2,85 @@
 public final class PixelTest {
     public static void main(String[] args) {
         Check check = new Check("pixel");
-        for (int received = 0; received <= 81; received++) {
-            showsWhatHasCome(check, received);
+        check.sentence("\"The value of the pixel of the sent picture\", not of the drawn one");
+        readsTheSentPicture(check);
+        check.sentence("\"The value of the pixel\", where it is 0 and where it is 255");
+        readsBothEndsOfValues(check);
+        check.sentence("\"if its rank is below the number of pixels received\"");
+        for (int rank = 0; rank < 81; rank++) {
+            showsFrom(check, rank, rank + 1);
         }
-        refusesOutside(check);
+        check.sentence("\"else -1\", where its rank is the number of pixels received");
+        for (int rank = 0; rank < 81; rank++) {
+            hidesAt(check, rank, rank);
+        }
+        check.sentence("\"else -1\", where its rank is above the number of pixels received");
+        for (int rank = 1; rank < 81; rank++) {
+            hidesAt(check, rank, rank - 1);
+            hidesAt(check, rank, 0);
+        }
+        check.sentence("every pixel at every number received");
+        for (int received = 0; received <= 81; received++) {
+            PyramidSender sender = sent(received);
+            Picture.shownIs(check, "after " + received, sender, Picture.numbered(20), received);
+        }
+        for (Outside kind : Outside.values()) {
+            check.sentence("\"also if x or y is not from 0 to 8\", " + kind.words);
+            refuses(check, kind, sent(81));
+            refuses(check, kind, sent(0));
+            refuses(check, kind, new PyramidSender());
+        }
+        check.sentence("\"or nothing has been sent\"");
         refusesBeforeSend(check);
         check.end();
     }
 
-    private static void showsWhatHasCome(Check check, int received) {
+    private static PyramidSender sent(int received) {
         PyramidSender sender = new PyramidSender();
         sender.ramp(20, 1, 9);
         sender.send();
         sender.receive(received);
-        for (int y = 0; y < 9; y++) {
-            for (int x = 0; x < 9; x++) {
-                int want = Ranks.BY_ROW[y][x] < received ? 20 + x + 9 * y : -1;
-                check.due("pixel(" + x + ", " + y + ") after " + received, sender.pixel(x, y), want);
-            }
-        }
+        return sender;
     }
 
-    private static void refusesOutside(Check check) {
+    private static void readsTheSentPicture(Check check) {
+        PyramidSender sender = sent(81);
+        sender.ramp(120, 1, 9);
+        Picture.shownIs(check, "drawn anew", sender, Picture.numbered(20), 81);
+    }
+
+    private static void readsBothEndsOfValues(Check check) {
         PyramidSender sender = new PyramidSender();
-        sender.ramp(20, 1, 9);
+        sender.draw(8, 0, 255);
         sender.send();
-        sender.receive(81);
-        for (int out : Check.OUTSIDE) {
-            for (int in = 0; in < 9; in += 4) {
-                check.due("pixel(" + out + ", " + in + ")", sender.pixel(out, in), -1);
-                check.due("pixel(" + in + ", " + out + ")", sender.pixel(in, out), -1);
-            }
-            check.due("pixel(" + out + ", " + out + ")", sender.pixel(out, out), -1);
+        sender.receive(2);
+        check.due("pixel(0, 0)", sender.pixel(0, 0), 0);
+        check.due("pixel(8, 0)", sender.pixel(8, 0), 255);
+    }
+
+    private static void showsFrom(Check check, int rank, int received) {
+        int x = Ranks.xOf(rank);
+        int y = Ranks.yOf(rank);
+        check.due("pixel(" + x + ", " + y + ") after " + received, sent(received).pixel(x, y), 20 + x + 9 * y);
+    }
+
+    private static void hidesAt(Check check, int rank, int received) {
+        int x = Ranks.xOf(rank);
+        int y = Ranks.yOf(rank);
+        check.due("pixel(" + x + ", " + y + ") after " + received, sent(received).pixel(x, y), -1);
+    }
+
+    private static void refuses(Check check, Outside kind, PyramidSender sender) {
+        for (int[] place : kind.places()) {
+            check.due("pixel(" + place[0] + ", " + place[1] + ")", sender.pixel(place[0], place[1]), -1);
         }
     }
 
     private static void refusesBeforeSend(Check check) {
+        Picture.shownIs(check, "new object", new PyramidSender(), new int[9][9], 0);
         PyramidSender sender = new PyramidSender();
         sender.ramp(20, 1, 9);
         sender.receive(81);
-        check.due("pixel(0, 0) before send", sender.pixel(0, 0), -1);
-        check.due("pixel(8, 8) before send", sender.pixel(8, 8), -1);
-        check.due("pixel(9, 8) before send", sender.pixel(9, 8), -1);
+        Picture.shownIs(check, "drawn but not sent", sender, Picture.numbered(20), 0);
     }
 }

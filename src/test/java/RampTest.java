@@ -7,16 +7,31 @@ public final class RampTest {
 
     public static void main(String[] args) {
         Check check = new Check("ramp");
-        int[][] ramps = {
-            {0, 0, 0}, {10, 3, 5}, {255, -1, -7}, {0, 128, 128}, {7, 64, 192}, {255, 1, 0}, {255, 0, 1},
-            {-1, 0, 0}, {300, 1000, -1000}, {MAX, 1, 1}, {MIN, -1, -1}, {MAX, MAX, MAX}, {MIN, MIN, MIN},
-            {100, MAX, MIN}, {100, MIN, MAX}, {5, 123456789, 987654321},
-        };
+        check.sentence("\"Every drawn pixel (x, y) becomes (base + dx * x + dy * y)\"");
+        fillEveryPixel(check, new int[][] {{0, 0, 0}, {10, 3, 5}, {0, 1, 0}, {0, 0, 1}, {15, 1, 29}, {255, -1, -7}});
+        check.sentence("\"& 255\", sums above 255");
+        fillEveryPixel(check, new int[][] {
+            {255, 1, 0}, {255, 0, 1}, {256, 0, 0}, {0, 128, 128}, {7, 64, 192}, {300, 1000, 1000},
+        });
+        check.sentence("\"& 255\", sums below 0");
+        fillEveryPixel(check, new int[][] {
+            {0, -1, 0}, {0, 0, -1}, {-1, 0, 0}, {-256, 0, 0}, {-300, -1000, -1000}, {3, 100, -1000},
+        });
+        check.sentence("\"(wrapping as in Java)\"");
+        fillEveryPixel(check, new int[][] {
+            {MAX, 1, 0}, {MAX, 0, 1}, {MIN, -1, 0}, {MIN, 0, -1}, {0, MAX, 0}, {0, 0, MAX}, {0, MIN, 0}, {0, 0, MIN},
+            {MAX, MAX, MAX}, {MIN, MIN, MIN}, {100, MAX, MIN}, {100, MIN, MAX}, {5, 123456789, 987654321},
+        });
+        check.sentence("the drawn picture alone changes");
+        leavesTheSentPicture(check);
+        leavesNothingSent(check);
+        check.end();
+    }
+
+    private static void fillEveryPixel(Check check, int[][] ramps) {
         for (int[] ramp : ramps) {
             fillsEveryPixel(check, ramp[0], ramp[1], ramp[2]);
         }
-        leavesTheSentPicture(check);
-        check.end();
     }
 
     /** Draws before, so that a pixel that ramp left out would show. */
@@ -30,7 +45,7 @@ public final class RampTest {
             }
         }
         sender.ramp(base, dx, dy);
-        check.drawnIs("ramp(" + base + ", " + dx + ", " + dy + ")", sender, want);
+        Picture.drawnIs(check, "ramp(" + base + ", " + dx + ", " + dy + ")", sender, want);
     }
 
     /** Without wrapping, which must not change the low eight bits. */
@@ -44,13 +59,20 @@ public final class RampTest {
 
     private static void leavesTheSentPicture(Check check) {
         PyramidSender sender = new PyramidSender();
-        sender.ramp(1, 2, 3);
+        sender.ramp(20, 1, 9);
         sender.send();
         sender.receive(50);
-        int sum = sender.sum();
         sender.ramp(77, 0, 0);
-        check.due("sum() after ramp", sender.sum(), sum);
-        check.due("pixel(8, 8) after ramp", sender.pixel(8, 8), 41);
         check.due("receive(0) after ramp", sender.receive(0), 50);
+        Picture.shownIs(check, "after ramp", sender, Picture.numbered(20), 50);
+        sender.receive(31);
+        Picture.shownIs(check, "after ramp, whole picture", sender, Picture.numbered(20), 81);
+    }
+
+    private static void leavesNothingSent(Check check) {
+        PyramidSender sender = new PyramidSender();
+        sender.ramp(77, 0, 0);
+        check.due("receive(1) after ramp alone", sender.receive(1), -1);
+        check.due("pixel(0, 0) after ramp alone", sender.pixel(0, 0), -1);
     }
 }

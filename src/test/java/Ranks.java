@@ -14,4 +14,21 @@ final class Ranks {
 
     private Ranks() {
     }
+
+    static int xOf(int rank) {
+        return placeOf(rank) % 9;
+    }
+
+    static int yOf(int rank) {
+        return placeOf(rank) / 9;
+    }
+
+    private static int placeOf(int rank) {
+        for (int place = 0; place < 81; place++) {
+            if (BY_ROW[place / 9][place % 9] == rank) {
+                return place;
+            }
+        }
+        throw new IllegalArgumentException("no pixel has the rank " + rank);
+    }
 }

@@ -1,67 +1,97 @@
-/** Promise 10: a call that is refused changes nothing; nor does one that only asks. */
+import java.util.ArrayList;
+import java.util.List;
+
+/** Promise 10: a call that is refused changes nothing, in any state of the object. */
 public final class RefusalTest {
     public static void main(String[] args) {
         Check check = new Check("refusals");
-        beforeSend(check);
-        int[] receivedCases = {0, 1, 30, 81};
-        for (int received : receivedCases) {
-            afterSend(check, received);
+        check.sentence("\"a call that is refused (..) changes nothing\", draw outside");
+        for (Known known : states()) {
+            drawOutside(check, known);
+        }
+        check.sentence("\"a call that is refused (..) changes nothing\", receive where nothing has been sent");
+        receiveBeforeSend(check, Known.nothingSent());
+        check.sentence("\"a call that is refused (..) changes nothing\", pixel outside");
+        for (Known known : states()) {
+            pixelOutside(check, known);
+        }
+        check.sentence("\"a call that is refused (..) changes nothing\", pixel where nothing has been sent");
+        pixelNotReceived(check, Known.nothingSent(), 0);
+        check.sentence("\"a call that is refused (..) changes nothing\", pixel where it is not received");
+        for (int received : Known.RECEIVED_CASES) {
+            pixelNotReceived(check, Known.received(received), received);
+        }
+        check.sentence("\"a call that is refused (..) changes nothing\", rank outside");
+        for (Known known : states()) {
+            rankOutside(check, known);
+        }
+        check.sentence("nor does a call that only asks");
+        for (Known known : states()) {
+            askOnly(check, known);
         }
         check.end();
     }
 
-    private static void beforeSend(Check check) {
-        PyramidSender sender = new PyramidSender();
-        sender.ramp(60, 1, 9);
-        check.due("receive(7)", sender.receive(7), -1);
-        refusedEverywhere(check, sender);
-        check.due("pixel(0, 0)", sender.pixel(0, 0), -1);
-        check.due("receive(0)", sender.receive(0), -1);
-        check.due("sum()", sender.sum(), 0);
-        sender.send();
-        check.due("receive(0) after send", sender.receive(0), 0);
-        check.drawnIs("after refusals before send", sender, rampByRow(60));
+    private static List<Known> states() {
+        List<Known> states = new ArrayList<>();
+        states.add(Known.nothingSent());
+        for (int received : Known.RECEIVED_CASES) {
+            states.add(Known.received(received));
+        }
+        return states;
     }
 
-    /** The drawn and the sent picture differ, so that a mix-up of both would show. */
-    private static void afterSend(Check check, int received) {
-        PyramidSender sender = new PyramidSender();
-        sender.ramp(60, 1, 9);
-        sender.send();
-        sender.receive(received);
-        sender.ramp(90, 1, 9);
-        refusedEverywhere(check, sender);
-        check.due("receive(0)", sender.receive(0), received);
-        for (int y = 0; y < 9; y++) {
-            for (int x = 0; x < 9; x++) {
-                int want = Ranks.BY_ROW[y][x] < received ? 60 + x + 9 * y : -1;
-                check.due("pixel(" + x + ", " + y + ") after refusals", sender.pixel(x, y), want);
-                check.due("rank(" + x + ", " + y + ") after refusals", sender.rank(x, y), Ranks.BY_ROW[y][x]);
+    private static void drawOutside(Check check, Known known) {
+        for (Outside kind : Outside.values()) {
+            for (int[] place : kind.places()) {
+                String call = "draw(" + place[0] + ", " + place[1] + ", 1)";
+                check.due(call, known.sender.draw(place[0], place[1], 1), -1);
             }
         }
-        check.drawnIs("after refusals after send", sender, rampByRow(90));
+        known.isUnchanged(check, "after draws outside");
     }
 
-    private static void refusedEverywhere(Check check, PyramidSender sender) {
-        for (int out : Check.OUTSIDE) {
-            check.due("draw(" + out + ", 0, 1)", sender.draw(out, 0, 1), -1);
-            check.due("draw(8, " + out + ", 1)", sender.draw(8, out, 1), -1);
-            check.due("pixel(" + out + ", 0)", sender.pixel(out, 0), -1);
-            check.due("pixel(8, " + out + ")", sender.pixel(8, out), -1);
-            check.due("rank(" + out + ", 0)", sender.rank(out, 0), -1);
-            check.due("rank(8, " + out + ")", sender.rank(8, out), -1);
+    private static void receiveBeforeSend(Check check, Known known) {
+        int[] counts = {0, 1, 81, 82, -1, Integer.MAX_VALUE, Integer.MIN_VALUE};
+        for (int count : counts) {
+            check.due("receive(" + count + ")", known.sender.receive(count), -1);
         }
-        sender.count(0, 255);
-        sender.sum();
+        known.isUnchanged(check, "after refused receives");
     }
 
-    private static int[][] rampByRow(int base) {
-        int[][] rows = new int[9][9];
-        for (int y = 0; y < 9; y++) {
-            for (int x = 0; x < 9; x++) {
-                rows[y][x] = base + x + 9 * y;
+    private static void pixelOutside(Check check, Known known) {
+        for (Outside kind : Outside.values()) {
+            for (int[] place : kind.places()) {
+                check.due("pixel(" + place[0] + ", " + place[1] + ")", known.sender.pixel(place[0], place[1]), -1);
             }
         }
-        return rows;
+        known.isUnchanged(check, "after pixels outside");
+    }
+
+    private static void pixelNotReceived(Check check, Known known, int received) {
+        for (int rank = received; rank < 81; rank++) {
+            int x = Ranks.xOf(rank);
+            int y = Ranks.yOf(rank);
+            check.due("pixel(" + x + ", " + y + ")", known.sender.pixel(x, y), -1);
+        }
+        known.isUnchanged(check, "after pixels that have not come");
+    }
+
+    private static void rankOutside(Check check, Known known) {
+        for (Outside kind : Outside.values()) {
+            for (int[] place : kind.places()) {
+                check.due("rank(" + place[0] + ", " + place[1] + ")", known.sender.rank(place[0], place[1]), -1);
+            }
+        }
+        known.isUnchanged(check, "after ranks outside");
+    }
+
+    private static void askOnly(Check check, Known known) {
+        known.sender.count(0, 255);
+        known.sender.count(255, 0);
+        known.sender.sum();
+        known.sender.rank(8, 8);
+        known.sender.pixel(8, 8);
+        known.isUnchanged(check, "after calls that only ask");
     }
 }
