@@ -1,5 +1,3 @@
-import java.util.Random;
-
 /** Promises 1 to 10 together: mixed runs of 512 calls beside a plain model, the same ones each time. */
 public final class LongRunsTest {
     private static final int CALLS = 512;
@@ -7,7 +5,7 @@ public final class LongRunsTest {
         -1, 0, 1, 8, 9, 80, 81, 82, 127, 128, 255, 256, Integer.MIN_VALUE, Integer.MAX_VALUE,
     };
 
-    private final Random random;
+    private final Mixed mixed;
     private final Check check;
     private final PyramidSender sender = new PyramidSender();
     private final int[][] drawn = new int[9][9];
@@ -16,7 +14,7 @@ public final class LongRunsTest {
 
     private LongRunsTest(Check check, long seed) {
         this.check = check;
-        this.random = new Random(seed);
+        this.mixed = new Mixed(seed);
     }
 
     public static void main(String[] args) {
@@ -32,7 +30,7 @@ public final class LongRunsTest {
     }
 
     private void callOnce(String at) {
-        switch (random.nextInt(20)) {
+        switch (mixed.below(20)) {
             case 0 -> ramp();
             case 1 -> send();
             case 2, 3, 4 -> receive(at);
@@ -66,7 +64,7 @@ public final class LongRunsTest {
     }
 
     private void receive(String at) {
-        int count = random.nextInt(4) == 0 ? number() : random.nextInt(12);
+        int count = mixed.below(4) == 0 ? number() : mixed.below(12);
         if (sent != null) {
             received = (int) Math.min(81L, received + Math.max(0L, count));
         }
@@ -116,14 +114,14 @@ public final class LongRunsTest {
     }
 
     private int place() {
-        return random.nextInt(12) == 0 ? EDGES[random.nextInt(EDGES.length)] : random.nextInt(9);
+        return mixed.below(12) == 0 ? EDGES[mixed.below(EDGES.length)] : mixed.below(9);
     }
 
     private int number() {
-        return switch (random.nextInt(4)) {
-            case 0 -> EDGES[random.nextInt(EDGES.length)];
-            case 1 -> random.nextInt();
-            default -> random.nextInt(256);
+        return switch (mixed.below(4)) {
+            case 0 -> EDGES[mixed.below(EDGES.length)];
+            case 1 -> mixed.next();
+            default -> mixed.below(256);
         };
     }
 
